@@ -1,7 +1,24 @@
 /** Collects the answers that are not the ones that are due. */
 final class Due {
+    private static final long PATIENCE_MILLIS = 300_000;
+
     private int wrong = 0;
     private int seen = 0;
+
+    /** A call that never ends must make the test fail, not wait for ever. */
+    Due() {
+        Thread watch = new Thread(() -> {
+            try {
+                Thread.sleep(PATIENCE_MILLIS);
+            } catch (InterruptedException e) {
+                return;
+            }
+            System.out.println("the test did not come to an end");
+            Runtime.getRuntime().halt(1);
+        });
+        watch.setDaemon(true);
+        watch.start();
+    }
 
     void same(String call, long got, long want) {
         seen++;
@@ -13,6 +30,12 @@ final class Due {
 
     void same(String call, boolean got, boolean want) {
         same(call, got ? 1L : 0L, want ? 1L : 0L);
+    }
+
+    void thrown(String call, RuntimeException e) {
+        seen++;
+        wrong++;
+        System.out.println(call + " threw " + e);
     }
 
     int wrong() {
