@@ -1,7 +1,7 @@
 import java.util.ArrayList;
 import java.util.List;
 
-/** In each state about the bounds every call is made with all kinds of arguments: answer and state must be the model's. */
+/** In each state about the bounds, every call with all kinds of arguments: answer and state must be the model's. */
 public final class AnyStateTest {
     private static final Due DUE = new Due();
 

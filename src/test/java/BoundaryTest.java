@@ -1,35 +1,15 @@
-import java.util.List;
-
-/**
- * Each sentence of the document that names a boundary case, in the document's order and words. Every run of
- * calls is made on a new object; refused calls are also looked at for what they leave behind.
- */
-public final class BoundaryTest {
-    private static final Due DUE = new Due();
-    private static final int CALLS = 512;
-    private static String sentence = "";
-
+/** Each sentence of the promises, in the document's order and words: what it asks for, and its boundary cases. */
+public final class BoundaryTest extends Sentences {
     public static void main(String[] args) {
-        use512Calls();
-
-        textOfAtMostTwelveLines();
-        contentFrom0To99();
-        equalContentIsNotOneLine();
-        atMostTwelveVersions();
-        version0IsTheEmptyText();
-        everyOtherVersionHasAnEarlierBase();
-        linesLeftAreTheSame();
-        linesPutInAreNew();
-        versionsNeverChange();
-        ancestorsStartWithTheVersionItself();
-
         newHasVersion0Only();
         newHasNoDraft();
 
+        openMakesADraft();
         openThrowsTheDraftAway();
         openAnswersItsLines();
         openOfNoVersion();
 
+        putsANewLine();
         putStandsAtItsPlace();
         putAnswersTheLines();
         putWithoutDraft();
@@ -64,9 +44,11 @@ public final class BoundaryTest {
         originOfLine();
         originOfNone();
 
+        baseOfVersion();
         baseOfVersion0();
         baseOfNoVersion();
 
+        ancestorsOfVersion();
         ancestorsAsBits();
         ancestorsOfNoVersion();
 
@@ -77,212 +59,17 @@ public final class BoundaryTest {
         placeInOfNoLine();
         placeInWithoutTheLine();
 
+        havingTheLine();
         havingAsBits();
         havingOfNoLine();
 
         draftCounts();
         draftWithoutDraft();
         draftOfWrongWhat();
-        DUE.end();
-    }
-
-    // How the tests are told.
-
-    private static void sentence(String where, String words) {
-        sentence = where + ", \"" + words + "\"";
-    }
-
-    /** Makes the calls on a new object; those with "=" must answer what stands after it. */
-    private static void due(String text) {
-        List<Call> calls = Call.list(text);
-        if (calls.size() > CALLS) {
-            throw new IllegalArgumentException("a longer run than the document promises: " + text);
+        for (int promise = 1; promise <= 16; promise++) {
+            allTold("Promise " + promise);
         }
-        WeaveStore x = new WeaveStore();
-        for (int k = 0; k < calls.size(); k++) {
-            Call call = calls.get(k);
-            String name = sentence + ": call " + (k + 1) + " of " + text + ": " + call;
-            try {
-                long got = call.on(x);
-                if (call.due() != null) {
-                    DUE.same(name, got, call.due());
-                }
-            } catch (RuntimeException e) {
-                DUE.thrown(name, e);
-                return;
-            }
-        }
-    }
-
-    /** As due, for a run that goes up to the last call that is promised. */
-    private static void dueToTheLast(String text) {
-        if (Call.list(text).size() != CALLS) {
-            throw new IllegalArgumentException("not a run of " + CALLS + " calls: " + text);
-        }
-        due(text);
-    }
-
-    /** The call, with each of the numbers for its "#", answers so in this state. */
-    private static void each(String state, String call, int[] numbers, String answer) {
-        for (int n : numbers) {
-            due(state + call.replace("#", Integer.toString(n)) + "=" + answer);
-        }
-    }
-
-    /** As each, and the call leaves everything as it was. */
-    private static void refused(String state, String call, int[] numbers, String answer) {
-        each(state, call, numbers, answer);
-        for (int n : numbers) {
-            unchanged(state, call.replace("#", Integer.toString(n)));
-        }
-    }
-
-    private static void unchanged(String state, String call) {
-        String name = sentence + ": " + state + call + " changes nothing";
-        try {
-            long[] before = Picture.of(Call.list(state));
-            String changed = Picture.difference(Picture.of(Call.list(state + call)), before);
-            DUE.same(name + ": " + changed, changed.isEmpty(), true);
-        } catch (RuntimeException e) {
-            DUE.thrown(name, e);
-        }
-    }
-
-    private static void refused(String state, String call, String answer) {
-        refused(state, call, new int[] {0}, answer);
-    }
-
-    private static int[] outside(int low, int high) {
-        return Bounds.outside(low, high);
-    }
-
-    /** Numbers that name no version when there are so many. */
-    private static int[] noVersion(int versions) {
-        return outside(0, versions - 1);
-    }
-
-    /** Puts with the answers from, from + 1, .. , to. */
-    private static String puts(int from, int to) {
-        StringBuilder calls = new StringBuilder();
-        for (int n = from; n <= to; n++) {
-            calls.append("put(0,4)=" + n + " ");
-        }
-        return calls.toString();
-    }
-
-    // What it is.
-
-    private static void use512Calls() {
-        sentence("What it is", "An object is used for at most 512 calls after it has been made");
-        dueToTheLast(("open(0)=0 " + puts(1, 12)).repeat(39)
-                + "close()=1 length(1)=12 line(1,11)=4 origin(1,11)=1 having(1,11)=2");
-        dueToTheLast("open(0)=0 put(0,7)=1 cut(0)=7 discard()=true ".repeat(127)
-                + "open(0)=0 put(0,8)=1 close()=1 line(1,0)=8");
-        dueToTheLast("open(0)=0 put(0,9)=1 " + "put(0,100)=BAD ".repeat(507) + "put(1,99)=2 close()=1 line(1,1)=99");
-        dueToTheLast("open(0)=0 " + puts(1, 12) + "put(0,4)*497=FULL close()=1 line(1,11)=4");
-        dueToTheLast("open(0)=0 close()=1 close()*509=BAD versions()=2");
-        dueToTheLast(States.TWELVE_VERSIONS + "open(11)=11 close()*475=FULL draft(0)=11 versions()=12 having(11,10)=4094");
-    }
-
-    // Terms.
-
-    private static void textOfAtMostTwelveLines() {
-        sentence("Terms", "A TEXT is a list of at most twelve LINES");
-        due("open(0) put(0,1)*10 put(10,2)=11 put(11,3)=12 put(0,4)=FULL draft(0)=12 close()=1 length(1)=12 "
-                + "line(1,10)=2 line(1,11)=3 line(1,12)=BAD");
-        due(States.FULL_TEXT_OPENED + "put(12,9)=FULL draft(0)=12 close()=2 length(2)=12 line(2,11)=8 line(2,12)=BAD");
-        due(States.FULL_TEXT_OPENED + "cut(11)=8 put(11,9)=12 put(12,9)=FULL close()=2 line(2,11)=9 line(1,11)=8");
-        due(States.FULL_TEXT + "open(0) put(0,6) close()=2 line(2,0)=6 line(1,11)=8 line(1,12)=BAD");
-    }
-
-    private static void contentFrom0To99() {
-        sentence("Terms", "a line has a content (0 .. 99)");
-        due("open(0) put(0,0)=1 put(1,1)=2 put(2,98)=3 put(3,99)=4 close()=1 "
-                + "line(1,0)=0 line(1,1)=1 line(1,2)=98 line(1,3)=99 "
-                + "open(1) cut(3)=99 cut(2)=98 cut(1)=1 cut(0)=0");
-        each("open(0) ", "put(0,#)", outside(0, 99), "BAD");
-    }
-
-    private static void equalContentIsNotOneLine() {
-        sentence("Terms", "Two lines with equal content are still two lines");
-        String twins = "open(0) put(0,5) put(1,5) close() ";
-        due(twins + "length(1)=2 shared(1,1)=2 placeIn(1,0,1)=0 placeIn(1,1,1)=1");
-        due(twins + "open(1) cut(0)=5 draft(0)=1 close()=2 placeIn(1,0,2)=BAD placeIn(1,1,2)=0 placeIn(2,0,1)=1 "
-                + "having(1,0)=2 having(1,1)=6 shared(1,2)=1 shared(2,1)=1");
-        due(twins + "open(1) cut(1)=5 put(1,5)=2 draft(1)=1 draft(2)=1 close()=2 origin(2,0)=1 origin(2,1)=2 "
-                + "shared(1,2)=1 placeIn(2,1,1)=BAD placeIn(1,1,2)=BAD having(2,1)=4");
-        due(twins + "open(0) put(0,5) put(1,5) close()=2 shared(1,2)=0 shared(2,1)=0 having(1,0)=2 having(2,0)=4 "
-                + "origin(2,0)=2 placeIn(1,0,2)=BAD");
-        due(States.FULL_TEXT + "shared(1,1)=12 placeIn(1,10,1)=10 placeIn(1,0,1)=0");
-    }
-
-    private static void atMostTwelveVersions() {
-        sentence("Terms", "There are at most twelve VERSIONS, with numbers 0 .. 11");
-        StringBuilder calls = new StringBuilder();
-        for (int v = 1; v <= 11; v++) {
-            calls.append("length(" + v + ")=BAD open(0)=0 close()=" + v + " length(" + v + ")=0 ");
-        }
-        due(calls + "versions()=12 open(0)=0 close()=FULL versions()=12 length(12)=BAD open(12)=BAD open(11)=0");
-        due(States.TWELVE_VERSIONS + "length(11)=11 line(11,0)=11 line(11,10)=1 base(11)=10 origin(11,0)=11");
-    }
-
-    private static void version0IsTheEmptyText() {
-        sentence("Terms", "version 0 is the empty text");
-        String empty = "length(0)=0 line(0,0)=BAD origin(0,0)=BAD having(0,0)=0 shared(0,0)=0 placeIn(0,0,0)=BAD ";
-        due(empty + "open(0)=0 draft(0)=0 cut(0)=BAD");
-        due("open(0) put(0,1) put(0,2) " + empty + "close()=1 " + empty + "open(0)=0");
-        due(States.FULL_TEXT + empty + "shared(0,1)=0 shared(1,0)=0 placeIn(1,0,0)=BAD");
-        due(States.TWELVE_VERSIONS_AND_DRAFT + empty);
-    }
-
-    private static void everyOtherVersionHasAnEarlierBase() {
-        sentence("Terms", "Every other version is made from an earlier one, its BASE");
-        for (int b = 0; b <= 10; b++) {
-            due("open(0) close() ".repeat(10) + "open(" + b + ") close()=11 base(11)=" + b);
-        }
-        due(States.TWELVE_VERSIONS + "base(1)=0 base(2)=1 base(10)=9 base(11)=10 base(0)=BAD");
-    }
-
-    private static void linesLeftAreTheSame() {
-        sentence("Terms", "The lines that are left from the base are the same lines as there");
-        due(States.FULL_TEXT_OPENED + "close()=2 shared(1,2)=12 shared(2,1)=12 origin(2,0)=1 origin(2,11)=1 "
-                + "placeIn(1,11,2)=11 having(2,0)=6");
-        due(States.FULL_TEXT_OPENED + "cut(0)*11 close()=2 length(2)=1 placeIn(2,0,1)=11 placeIn(1,11,2)=0 "
-                + "placeIn(1,10,2)=BAD origin(2,0)=1");
-        due(States.FULL_TEXT_OPENED + "cut(0)*12 close()=2 length(2)=0 shared(1,2)=0 having(1,0)=2");
-    }
-
-    private static void linesPutInAreNew() {
-        sentence("Terms", "those put in are new lines, which belong to the new version");
-        due(States.FULL_TEXT_OPENED + "cut(11) put(0,8) close()=2 origin(2,0)=2 origin(2,1)=1 shared(1,2)=11 "
-                + "placeIn(1,0,2)=1 placeIn(1,11,2)=BAD placeIn(2,0,1)=BAD having(2,0)=4");
-        due("open(0) put(0,1) discard() open(0) close()=1 open(1) put(0,1) close()=2 origin(2,0)=2");
-        due(States.TWELVE_VERSIONS + "origin(11,0)=11 origin(11,1)=10 origin(11,10)=1");
-    }
-
-    private static void versionsNeverChange() {
-        sentence("Terms", "Versions never change");
-        String text1 = "length(1)=3 line(1,0)=10 line(1,1)=20 line(1,2)=30 line(1,3)=BAD origin(1,0)=1 base(1)=0 ";
-        due(States.BRANCHES + text1 + "open(1) cut(0)=10 " + text1 + "put(0,90)=3 put(3,91)=4 " + text1
-                + "cut(0)=90 cut(0)=20 cut(0)=30 cut(0)=91 " + text1 + "close()=5 " + text1
-                + "open(1)=3 put(1,1)*9 " + text1 + "discard()=true " + text1 + "open(1)=3");
-        due(States.TWELVE_VERSIONS + "open(11) cut(0)*11 put(0,77)*12 close()=FULL length(11)=11 line(11,0)=11 "
-                + "line(11,10)=1 open(10)=10 length(11)=11 line(1,0)=1");
-        due("open(0) put(0,1)*12 discard() open(0) put(0,2) close()=1 open(0) put(0,3) discard() line(1,0)=2");
-    }
-
-    private static void ancestorsStartWithTheVersionItself() {
-        sentence("Terms", "An ANCESTOR of a version is the version itself, its base, the base of this, and so on");
-        due("ancestors(0)=1 open(0) close() ancestors(0)=1 ancestors(1)=3");
-        StringBuilder chain = new StringBuilder(States.TWELVE_VERSIONS);
-        StringBuilder star = new StringBuilder("open(0) close() ".repeat(11));
-        for (int v = 1; v <= 11; v++) {
-            chain.append("ancestors(" + v + ")=" + ((2 << v) - 1) + " ");
-            star.append("ancestors(" + v + ")=" + ((1 << v) + 1) + " ");
-        }
-        due(chain.toString());
-        due(star.toString());
-        due(States.BRANCHES + "open(3) close()=5 ancestors(5)=43 ancestors(4)=17 ancestors(3)=11");
+        end();
     }
 
     // Promise 1.
@@ -305,6 +92,15 @@ public final class BoundaryTest {
     }
 
     // Promise 2.
+
+    private static void openMakesADraft() {
+        sentence("Promise 2", "Opens version v as a draft");
+        due("open(0) draft(0)=0 put(0,3)=1 cut(0)=3 close()=1");
+        due(States.BRANCHES + "open(2) draft(0)=4 cut(0)=10 cut(0)=21 cut(0)=30 cut(0)=40 cut(0)=BAD");
+        due(States.BRANCHES + "open(3) cut(3)=20 cut(2)=15 cut(1)=10 cut(0)=5 close()=5 base(5)=3 length(3)=4");
+        due(States.FULL_TEXT_OPENED + "draft(0)=12 draft(1)=12 cut(11)=8 cut(0)=7 close()=2 base(2)=1 length(2)=10");
+        due(States.TWELVE_VERSIONS + "open(11) draft(0)=11 cut(0)=11 cut(9)=1 discard()=true");
+    }
 
     private static void openThrowsTheDraftAway() {
         sentence("Promise 2", "throwing away a draft that was open");
@@ -336,6 +132,14 @@ public final class BoundaryTest {
     }
 
     // Promise 3.
+
+    private static void putsANewLine() {
+        sentence("Promise 3", "Puts a new line into the draft so that it");
+        due("open(0) put(0,5)=1 draft(0)=1 draft(2)=1 close()=1 length(1)=1 line(1,0)=5 origin(1,0)=1 having(1,0)=2");
+        due(States.ONE_VERSION_MORE + "open(1) put(1,5)=2 draft(1)=1 draft(2)=1 length(1)=1 close()=2 "
+                + "line(2,1)=5 origin(2,1)=2 origin(2,0)=1 having(2,1)=4 placeIn(2,1,1)=BAD shared(1,2)=1");
+        due(States.ONE_VERSION_MORE + "open(1) cut(0)=5 put(0,5)=1 close()=2 line(2,0)=5 origin(2,0)=2 shared(1,2)=0");
+    }
 
     private static void putStandsAtItsPlace() {
         sentence("Promise 3", "stands at place i (0 to the number of its lines)");
@@ -388,7 +192,7 @@ public final class BoundaryTest {
         refused(States.THIRTY_PUTS, "put(#,5)", new int[] {0, 1}, "FULL");
         due("open(0) put(0,1)*12 close() open(0) put(0,2)*12 close() open(0) " + puts(1, 6) + "put(0,3)=FULL");
         due(States.THIRTY_PUTS_CLOSED + "open(0)=0 put(0,3)=FULL open(3)=6 put(6,3)=FULL cut(0)=3 put(0,3)=FULL");
-        due(States.TWELVE_VERSIONS + "open(0) " + puts(1, 12) + "cut(0)=4 put(0,4)=12 " + "cut(0) put(0,4)=12 ".repeat(6)
+        due(States.TWELVE_VERSIONS + "open(0) " + puts(1, 12) + "cut(0)=4 put(0,4)=12 ".repeat(7)
                 + "cut(0)=4 put(0,4)=FULL");
         due(States.THIRTY_PUTS_CLOSED + "open(1)=12 close()=4 length(4)=12");
     }
@@ -416,7 +220,7 @@ public final class BoundaryTest {
     }
 
     private static void putRefusedIsNotCounted() {
-        sentence("Promise 3, a refused put is none", "30 lines in all were put into drafts");
+        sentence("Promise 3", "30 lines in all were put into drafts");
         due("open(0) put(0,100)*40=BAD put(1,0)*40=BAD " + puts(1, 12) + "put(0,1)*40=FULL cut(0)*12 " + puts(1, 12)
                 + "put(0,1)*40=FULL cut(0)*12 " + puts(1, 6) + "put(0,1)=FULL");
         due(States.THIRTY_PUTS + "put(0,1)*40=FULL open(0) " + puts(1, 12));
@@ -472,7 +276,8 @@ public final class BoundaryTest {
     private static void closeWithoutDraft() {
         sentence("Promise 5", "BAD when no draft is open");
         for (String none : new String[] {States.NEW, States.ONE_VERSION_MORE, States.CLOSED_UNCHANGED,
-            States.DISCARDED, States.FULL_TEXT, States.TWELVE_VERSIONS, States.TWELVE_VERSIONS_AND_DRAFT + "discard() "}) {
+            States.DISCARDED, States.FULL_TEXT, States.TWELVE_VERSIONS,
+            States.TWELVE_VERSIONS_AND_DRAFT + "discard() "}) {
             refused(none, "close()", "BAD");
         }
     }
@@ -582,6 +387,13 @@ public final class BoundaryTest {
 
     // Promise 11.
 
+    private static void baseOfVersion() {
+        sentence("Promise 11", "The base of version v");
+        due(States.BRANCHES + "base(1)=0 base(2)=1 base(3)=1 base(4)=0");
+        due(States.BRANCHES + "open(4) open(2) close()=5 base(5)=2 open(3) open(99)=BAD close()=6 base(6)=3");
+        due(States.BRANCHES + "open(1) discard() open(4) base(4)=0 close()=5 base(5)=4");
+    }
+
     private static void baseOfVersion0() {
         sentence("Promise 11", "BAD when v is 0");
         due("base(0)=BAD open(0) base(0)=BAD close() base(0)=BAD base(1)=0");
@@ -596,6 +408,12 @@ public final class BoundaryTest {
     }
 
     // Promise 12.
+
+    private static void ancestorsOfVersion() {
+        sentence("Promise 12", "The ancestors of version v");
+        due(States.BRANCHES + "ancestors(1)=3 ancestors(2)=7 ancestors(3)=11 ancestors(4)=17");
+        due(States.BRANCHES_AND_DRAFT + "ancestors(2)=7 close()=5 ancestors(5)=39 ancestors(2)=7 ancestors(3)=11");
+    }
 
     private static void ancestorsAsBits() {
         sentence("Promise 12", "bit w for version w");
@@ -639,7 +457,8 @@ public final class BoundaryTest {
     private static void placeInVersion() {
         sentence("Promise 14", "The place, in version w, of the line at place i of version v");
         due(States.TWELVE_VERSIONS + "placeIn(1,0,11)=10 placeIn(11,10,1)=0 placeIn(11,0,11)=0 placeIn(11,10,11)=10");
-        due(States.FULL_TEXT_OPENED + "cut(0) put(11,9) close() placeIn(1,11,2)=10 placeIn(1,1,2)=0 placeIn(2,11,2)=11");
+        due(States.FULL_TEXT_OPENED + "cut(0) put(11,9) close() "
+                + "placeIn(1,11,2)=10 placeIn(1,1,2)=0 placeIn(2,11,2)=11");
     }
 
     private static void placeInOfNoLine() {
@@ -663,9 +482,16 @@ public final class BoundaryTest {
 
     // Promise 15.
 
+    private static void havingTheLine() {
+        sentence("Promise 15", "The versions that have the line at place i of version v");
+        due(States.BRANCHES + "having(2,0)=14 having(3,1)=14 having(2,2)=6 having(3,3)=10 having(2,3)=4 having(3,0)=8");
+        due(States.FULL_TEXT + "open(0) close() open(1) close()=3 having(1,11)=10 having(3,0)=10 having(1,10)=10");
+    }
+
     private static void havingAsBits() {
         sentence("Promise 15", "bit w for version w");
-        due(States.TWELVE_VERSIONS_AND_DRAFT + "having(1,0)=4094 having(11,10)=4094 having(11,0)=2048 having(10,0)=3072");
+        due(States.TWELVE_VERSIONS_AND_DRAFT
+                + "having(1,0)=4094 having(11,10)=4094 having(11,0)=2048 having(10,0)=3072");
         due(States.BRANCHES + "having(1,0)=14 having(1,1)=10 having(1,2)=6 having(4,0)=16");
         due(States.ONE_VERSION_MORE + "open(1) having(1,0)=2 cut(0) having(1,0)=2 close()=2 having(1,0)=2");
         due(States.ONE_VERSION_MORE + "open(1) having(1,0)=2 close()=2 having(1,0)=6 having(2,0)=6");
@@ -679,7 +505,8 @@ public final class BoundaryTest {
     // Promise 16.
 
     private static void draftCounts() {
-        sentence("Promise 16", "of those of its base, when what is 1; new ones, when what is 2; all, when what is 0");
+        sentence("Promise 16", "The number of lines of the draft (of those of its base, when what is 1; "
+                + "new ones, when what is 2; all, when what is 0)");
         due("open(0) draft(0)=0 draft(1)=0 draft(2)=0");
         due(States.FULL_DRAFT + "draft(0)=12 draft(1)=0 draft(2)=12");
         due(States.FULL_TEXT_OPENED + "draft(0)=12 draft(1)=12 draft(2)=0 cut(0) put(0,7) "

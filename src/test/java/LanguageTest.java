@@ -1,3 +1,4 @@
+import com.sun.source.tree.ArrayAccessTree;
 import com.sun.source.tree.AssignmentTree;
 import com.sun.source.tree.BinaryTree;
 import com.sun.source.tree.ClassTree;
@@ -14,6 +15,7 @@ import com.sun.source.tree.MethodTree;
 import com.sun.source.tree.NewArrayTree;
 import com.sun.source.tree.StatementTree;
 import com.sun.source.tree.Tree;
+import com.sun.source.tree.TypeCastTree;
 import com.sun.source.tree.UnaryTree;
 import com.sun.source.tree.VariableTree;
 import com.sun.source.util.JavacTask;
@@ -52,6 +54,10 @@ public final class LanguageTest {
 
     private static final Set<String> NUMBER_TYPES = Set.of("int", "long", "short", "byte", "char", "boolean");
 
+    private static final Set<Tree.Kind> CONSTANT_PARTS = Set.of(
+            Tree.Kind.INT_LITERAL, Tree.Kind.LONG_LITERAL, Tree.Kind.IDENTIFIER, Tree.Kind.PARENTHESIZED,
+            Tree.Kind.UNARY_MINUS, Tree.Kind.PLUS, Tree.Kind.MINUS, Tree.Kind.MULTIPLY, Tree.Kind.LEFT_SHIFT);
+
     private final CompilationUnitTree unit;
     private final SourcePositions positions;
     private final Map<String, Set<String>> callsOf = new TreeMap<>();
@@ -69,6 +75,7 @@ public final class LanguageTest {
             CompilationUnitTree unit = task.parse().iterator().next();
             LanguageTest test = new LanguageTest(unit, Trees.instance(task).getSourcePositions());
             test.wholeFile();
+            test.arrayNames();
             test.members();
             test.callDepth();
         }
@@ -109,7 +116,49 @@ public final class LanguageTest {
                 must("rule 2: type of " + tree.getName(), tree, isAllowedType(tree.getType()));
                 return super.visitVariable(tree, none);
             }
+
+            @Override
+            public Void visitTypeCast(TypeCastTree tree, Void none) {
+                must("rule 6: a cast to a number", tree, NUMBER_TYPES.contains(tree.getType().toString()));
+                return super.visitTypeCast(tree, none);
+            }
         }.scan(unit, null);
+    }
+
+    /**
+     * An array's name stands only before an index: it is not compared, answered, assigned or given a second name.
+     * The class hands none to its methods either, which rule 4 would allow.
+     */
+    private void arrayNames() {
+        Set<String> arrays = new HashSet<>();
+        for (Tree member : onlyClass().getMembers()) {
+            if (member instanceof VariableTree && isArray((VariableTree) member)) {
+                arrays.add(((VariableTree) member).getName().toString());
+            }
+        }
+        new TreeScanner<Void, Void>() {
+            @Override
+            public Void visitArrayAccess(ArrayAccessTree tree, Void none) {
+                must("rule 2: an index into a named array", tree, arrays.contains(tree.getExpression().toString()));
+                return scan(tree.getIndex(), none);
+            }
+
+            @Override
+            public Void visitIdentifier(IdentifierTree tree, Void none) {
+                must("rule 4: the array " + tree + " without an index", tree, !arrays.contains(tree.toString()));
+                return null;
+            }
+
+            @Override
+            public Void visitMethod(MethodTree tree, Void none) {
+                tree.getParameters().forEach(given -> must("rule 4: no array is handed on", given, !isArray(given)));
+                return super.visitMethod(tree, none);
+            }
+        }.scan(onlyClass(), null);
+    }
+
+    private static boolean isArray(VariableTree variable) {
+        return variable.getType().toString().endsWith("[]");
     }
 
     private static boolean isAllowedType(Tree type) {
@@ -129,9 +178,12 @@ public final class LanguageTest {
     }
 
     private void field(VariableTree field) {
-        boolean isArray = field.getType().toString().endsWith("[]");
+        boolean isArray = isArray(field);
         Set<Modifier> modifiers = field.getModifiers().getFlags();
         must("rule 5: no static array", field, !(isArray && modifiers.contains(Modifier.STATIC)));
+        if (modifiers.contains(Modifier.STATIC)) {
+            constant(field);
+        }
         if (isArray) {
             must("rule 4: no method assigns to an array field", field, modifiers.contains(Modifier.FINAL));
             must("rule 4: made in its initialiser", field, field.getInitializer() instanceof NewArrayTree);
@@ -140,6 +192,17 @@ public final class LanguageTest {
             ExpressionTree length = made.getDimensions().get(0);
             must("rule 4: a constant length", field, length instanceof LiteralTree || isConstant(length));
         }
+    }
+
+    private void constant(VariableTree field) {
+        must("rule 5: a constant has a value", field, field.getInitializer() != null);
+        new TreeScanner<Void, Void>() {
+            @Override
+            public Void scan(Tree part, Void none) {
+                must("rule 5: a compile-time constant", field, part == null || CONSTANT_PARTS.contains(part.getKind()));
+                return super.scan(part, none);
+            }
+        }.scan(field.getInitializer(), null);
     }
 
     private boolean isConstant(ExpressionTree length) {
@@ -161,7 +224,8 @@ public final class LanguageTest {
         long last = unit.getLineMap().getLineNumber(positions.getEndPosition(unit, method));
         must("rule 10: length of " + name, method, last - row(method) + 1 <= MOST_LINES);
         must("rule 10: parameters of " + name, method, method.getParameters().size() <= MOST_PARAMETERS);
-        must("rule 4: no array is answered", method, answer == null || !answer.toString().endsWith("[]"));
+        must("rules 2, 4: a number is answered, or nothing", method,
+                answer == null || answer.toString().equals("void") || NUMBER_TYPES.contains(answer.toString()));
         must("the calls are told by names: one method of the name " + name, method, !callsOf.containsKey(name));
         callsOf.put(name, new TreeSet<>());
         body(method, callsOf.get(name));
@@ -172,7 +236,8 @@ public final class LanguageTest {
             @Override
             public Void visitMethodInvocation(MethodInvocationTree call, Boolean inArguments) {
                 String name = call.getMethodSelect().toString();
-                must("rule 3: a bare name is called, not " + name, call, call.getMethodSelect() instanceof IdentifierTree);
+                boolean isBare = call.getMethodSelect() instanceof IdentifierTree;
+                must("rule 3: a bare name is called, not " + name, call, isBare);
                 must("rule 10: no call inside the arguments of a call", call, !inArguments);
                 calls.add(name);
                 return scan(call.getArguments(), true);
