@@ -126,7 +126,7 @@ public final class LanguageTest {
     }
 
     /**
-     * An array's name stands only before an index: it is not compared, answered, assigned or given a second name.
+     * An array's name stands only before an index or ".length": it is not compared, answered, assigned or renamed.
      * The class hands none to its methods either, which rule 4 would allow.
      */
     private void arrayNames() {
@@ -141,6 +141,11 @@ public final class LanguageTest {
             public Void visitArrayAccess(ArrayAccessTree tree, Void none) {
                 must("rule 2: an index into a named array", tree, arrays.contains(tree.getExpression().toString()));
                 return scan(tree.getIndex(), none);
+            }
+
+            @Override
+            public Void visitMemberSelect(MemberSelectTree tree, Void none) {
+                return tree.getIdentifier().contentEquals("length") ? null : super.visitMemberSelect(tree, none);
             }
 
             @Override
